@@ -24,18 +24,18 @@ public final class MoorGuides {
 
     private final byte[] tape = new byte[MOST_BYTES];
     private int tapeLength;
-    private final Reader reader = new Reader();
     private Moor moor = new Moor();
     private Moor draft = new Moor();
+    private final Reader reader = new Reader(draft);
     private final Stand stand = new Stand(moor);
     private final Stand image = new Stand(moor);
     private boolean hasImage;
     private int undoable;
     private final int[] undoPerson = new int[MOST_UNDO];
     private final int[] undoPart = new int[MOST_UNDO];
-    private final Leading leading = new Leading();
-    private final Sharing sharing = new Sharing();
-    private final Ordering ordering = new Ordering();
+    private final Leading leading = new Leading(stand);
+    private final Sharing sharing = new Sharing(stand);
+    private final Ordering ordering = new Ordering(stand);
     private final Masters masters = new Masters(moor);
     private final Claims claims = new Claims();
 
@@ -184,7 +184,7 @@ public final class MoorGuides {
         if (!isParty(party) || what < 0 || what > 1) {
             return NONE;
         }
-        if (!leading.find(stand, party)) {
+        if (!leading.find(party)) {
             return CANNOT;
         }
         return what == 0 ? leading.hands : leading.length;
@@ -194,7 +194,7 @@ public final class MoorGuides {
         if (!isParty(party) || k < 0 || what < 0 || what > 1) {
             return NONE;
         }
-        if (!leading.find(stand, party) || k >= leading.length) {
+        if (!leading.find(party) || k >= leading.length) {
             return CANNOT;
         }
         return what == 0 ? leading.parts[k] : leading.guides[k];
@@ -218,7 +218,7 @@ public final class MoorGuides {
         if (!isNight(night) || what != NONE && !isParty(what)) {
             return NONE;
         }
-        sharing.find(stand, night, NONE);
+        sharing.find(night, NONE);
         return what == NONE ? sharing.sum() : sharing.guides[what];
     }
 
@@ -226,9 +226,9 @@ public final class MoorGuides {
         if (!isPerson(person) || !isNight(night)) {
             return NONE;
         }
-        sharing.find(stand, night, NONE);
+        sharing.find(night, NONE);
         int with = sharing.sum();
-        sharing.find(stand, night, person);
+        sharing.find(night, person);
         return with - sharing.sum();
     }
 
@@ -244,7 +244,7 @@ public final class MoorGuides {
         if (parties < 0 || parties >= 1 << moor.parties || what < 0 || what > 1) {
             return NONE;
         }
-        int parts = sharing.fewestParts(stand, parties);
+        int parts = sharing.fewestParts(parties);
         if (parts < 0) {
             return CANNOT;
         }
@@ -255,7 +255,7 @@ public final class MoorGuides {
         if (!isOrder(person, parts) || what < 0 || what > 1) {
             return NONE;
         }
-        ordering.find(stand, person, parts);
+        ordering.find(person, parts);
         return what == 0 ? ordering.above() : ordering.below();
     }
 
@@ -263,7 +263,7 @@ public final class MoorGuides {
         if (!isOrder(person, parts) || k < 0) {
             return NONE;
         }
-        ordering.find(stand, person, parts);
+        ordering.find(person, parts);
         return k < ordering.length ? ordering.best[k] : CANNOT;
     }
 
@@ -424,7 +424,7 @@ public final class MoorGuides {
         return NONE;
     }
 
-    /** Cuts a text into tokens; the one that stands next is in token, with its place. */
+    /** Cuts a text into tokens at once; the one that stands next is in token, with its place. */
     private static final class Tokens {
         static final int END = -1;
         static final int BAD = -2;
@@ -470,127 +470,152 @@ public final class MoorGuides {
         static final int AT_LEAST = 43;
         static final int ABOVE = 44;
 
-        /** The words by their numbers above, in columns of WIDTH. */
+        /** The words by their numbers above, a blank behind each. */
         private static final String WORDS =
-            "part    beside  person  knows   cost    from    till    forget  "
-            + "party   weather slide   near    seed    law     out     pick    "
-            + "or      and     not     odds    around  times   wanted  night   ";
-        private static final int WIDTH = 8;
-        private static final int WORD_COUNT = 24;
-        /** A one-sign token's number is SEMICOLON and its index here; those of two signs have a blank. */
+            "part beside person knows cost from till forget party weather slide near seed law out pick or and not odds around times wanted night ";
+        /** The signs by their numbers from SEMICOLON on; in place of those of two signs a blank. */
         private static final String SIGNS = ";()+-*/< =  >";
         private static final int LONGEST_NAME = 6;
         /** Above every number that a text may hold; larger ones stop growing here. */
         private static final int TOO_LARGE = 1000000;
 
+        private final int[] kinds = new int[MOST_BYTES + 1];
+        private final int[] places = new int[MOST_BYTES + 1];
+        /** Of a number its value, of a word its letters. */
+        private final int[] values = new int[MOST_BYTES + 1];
+        private int size;
+        private int next;
         private byte[] bytes = new byte[0];
         private int length;
-        private int end;
         int token;
         int place;
-        int number;
-        int letters;
+        int value;
 
-        void begin(byte[] source, int size) {
+        void begin(byte[] source, int sourceLength) {
             bytes = source;
-            length = Math.min(size, source.length);
-            end = 0;
+            length = Math.min(Math.min(sourceLength, source.length), MOST_BYTES);
+            size = 0;
+            int at = 0;
+            for (int i = 0; i < length && at < length; i++) {
+                at = cut(at);
+            }
+            add(END, length, 0);
+            next = 0;
             advance();
+        }
+
+        /** Behind the last token END stands for ever. */
+        void advance() {
+            if (next < size) {
+                token = kinds[next];
+                place = places[next];
+                value = values[next];
+                next++;
+            }
+        }
+
+        private void add(int kind, int where, int what) {
+            if (size <= MOST_BYTES) {
+                kinds[size] = kind;
+                places[size] = where;
+                values[size] = what;
+                size++;
+            }
         }
 
         private int byteAt(int index) {
             return index >= 0 && index < length ? bytes[index] & 255 : 0;
         }
 
-        void advance() {
-            place = end;
-            for (int i = 0; i < length && (byteAt(place) == ' ' || byteAt(place) == '\n'); i++) {
-                place++;
+        /** Where the next token may begin. */
+        private int cut(int at) {
+            int sign = byteAt(at);
+            if (sign == ' ' || sign == '\n') {
+                return at + 1;
             }
-            if (place >= length) {
-                place = length;
-                end = length;
-                token = END;
-            } else if (isLetter(byteAt(place))) {
-                takeWord();
-            } else if (isDigit(byteAt(place))) {
-                takeNumber();
-            } else {
-                takeSign();
+            if (isLetter(sign)) {
+                return cutWord(at);
             }
+            return isDigit(sign) ? cutNumber(at) : cutSign(at);
         }
 
-        private void takeWord() {
-            letters = 0;
-            end = place;
+        private int cutWord(int at) {
+            int letters = 0;
+            int end = at;
             for (int i = 0; i < length && isLetter(byteAt(end)); i++) {
                 if (i < LONGEST_NAME) {
                     letters |= byteAt(end) - 'a' + 1 << 5 * (LONGEST_NAME - 1 - i);
                 }
                 end++;
             }
-            token = wordNumber();
-            if (token == NONE) {
-                token = end - place <= LONGEST_NAME ? NAME : BAD;
+            int word = wordNumber(at, end - at);
+            if (word != NONE) {
+                add(word, at, 0);
+            } else {
+                add(end - at <= LONGEST_NAME ? NAME : BAD, at, letters);
             }
+            return end;
         }
 
-        private int wordNumber() {
-            for (int word = 0; word < WORD_COUNT; word++) {
-                if (isWord(word)) {
+        private int wordNumber(int at, int letterCount) {
+            int word = 0;
+            int letter = 0;
+            boolean same = true;
+            for (int i = 0; i < WORDS.length(); i++) {
+                if (WORDS.charAt(i) != ' ') {
+                    same = same && letter < letterCount && WORDS.charAt(i) == byteAt(at + letter);
+                    letter++;
+                } else if (same && letter == letterCount) {
                     return word;
+                } else {
+                    word++;
+                    letter = 0;
+                    same = true;
                 }
             }
             return NONE;
         }
 
-        private boolean isWord(int word) {
-            int size = end - place;
-            if (size >= WIDTH || WORDS.charAt(word * WIDTH + size) != ' ') {
-                return false;
-            }
-            for (int i = 0; i < size; i++) {
-                if (WORDS.charAt(word * WIDTH + i) != byteAt(place + i)) {
-                    return false;
-                }
-            }
-            return true;
-        }
-
-        private void takeNumber() {
-            number = 0;
-            end = place;
+        private int cutNumber(int at) {
+            int number = 0;
+            int end = at;
             for (int i = 0; i < length && isDigit(byteAt(end)); i++) {
                 if (number < TOO_LARGE) {
                     number = number * 10 + byteAt(end) - '0';
                 }
                 end++;
             }
-            token = NUMBER;
+            add(NUMBER, at, number);
+            return end;
         }
 
-        private void takeSign() {
-            int sign = byteAt(place);
-            int next = byteAt(place + 1);
-            end = place + 1;
-            token = BAD;
+        private int cutSign(int at) {
+            int sign = byteAt(at);
+            int second = byteAt(at + 1);
+            if (sign == '<' && second == '=') {
+                add(AT_MOST, at, 0);
+                return at + 2;
+            }
+            if (sign == '<' && second == '>') {
+                add(OTHER, at, 0);
+                return at + 2;
+            }
+            if (sign == '>' && second == '=') {
+                add(AT_LEAST, at, 0);
+                return at + 2;
+            }
+            int kind = BAD;
             for (int i = 0; i < SIGNS.length(); i++) {
                 if (SIGNS.charAt(i) == sign) {
-                    token = SEMICOLON + i;
+                    kind = SEMICOLON + i;
                 }
             }
-            if (token == BELOW && next == '=') {
-                takeSecond(AT_MOST);
-            } else if (token == BELOW && next == '>') {
-                takeSecond(OTHER);
-            } else if (token == ABOVE && next == '=') {
-                takeSecond(AT_LEAST);
-            }
+            add(kind, at, 0);
+            return at + 1;
         }
 
-        private void takeSecond(int both) {
-            token = both;
-            end++;
+        static boolean isName(int token) {
+            return token == COST || token == WEATHER || token >= ODDS && token <= NIGHT;
         }
 
         private static boolean isLetter(int sign) {
@@ -629,6 +654,10 @@ public final class MoorGuides {
         int lines;
         int fault;
         int place = NONE;
+
+        Reader(Moor target) {
+            moor = target;
+        }
 
         boolean readText(byte[] bytes, int length, Moor target) {
             moor = target;
@@ -782,16 +811,18 @@ public final class MoorGuides {
         }
 
         private boolean readWeather() {
-            int number = readNumber(0, 9);
-            for (int i = 0; i < MOST_WEATHER && number >= 0; i++) {
+            for (int i = 0; i < MOST_WEATHER; i++) {
+                int number = readNumber(0, 9);
+                if (number < 0) {
+                    return false;
+                }
                 moor.weather[i] = number;
                 moor.weathers = i + 1;
                 if (tokens.token != Tokens.NUMBER) {
                     return true;
                 }
-                number = i + 1 < MOST_WEATHER ? readNumber(0, 9) : NONE;
             }
-            return fault != 0 ? false : fail(TOO_MUCH);
+            return fail(TOO_MUCH);
         }
 
         private boolean readSlide() {
@@ -828,11 +859,11 @@ public final class MoorGuides {
             if (tokens.token != Tokens.NAME) {
                 return fail(WRONG_TOKEN);
             }
-            if (indexOf(names, size, tokens.letters) != NONE) {
+            if (indexOf(names, size, tokens.value) != NONE) {
                 return fail(TOLD_ALREADY);
             }
             if (size < names.length) {
-                names[size] = tokens.letters;
+                names[size] = tokens.value;
             }
             tokens.advance();
             return true;
@@ -843,7 +874,7 @@ public final class MoorGuides {
                 fail(WRONG_TOKEN);
                 return NONE;
             }
-            int number = tokens.number;
+            int number = tokens.value;
             if (number < least || number > most) {
                 fail(TOO_MUCH);
                 return NONE;
@@ -879,7 +910,7 @@ public final class MoorGuides {
                 fail(WRONG_TOKEN);
                 return NONE;
             }
-            int part = indexOf(moor.partNames, moor.parts, tokens.letters);
+            int part = indexOf(moor.partNames, moor.parts, tokens.value);
             if (part == NONE) {
                 fail(NOT_TOLD);
             }
@@ -922,7 +953,7 @@ public final class MoorGuides {
             if (token != Tokens.NUMBER) {
                 return countKnot() && law.add(~token);
             }
-            return tokens.number <= MOST_OF_LAW ? countKnot() && law.add(tokens.number) : fail(TOO_MUCH);
+            return tokens.value <= MOST_OF_LAW ? countKnot() && law.add(tokens.value) : fail(TOO_MUCH);
         }
 
         private boolean readSign(Law law) {
@@ -970,8 +1001,7 @@ public final class MoorGuides {
         }
 
         private static boolean isValue(int token) {
-            return token == Tokens.NUMBER || token == Tokens.COST || token == Tokens.WEATHER
-                || token >= Tokens.ODDS && token <= Tokens.NIGHT;
+            return token == Tokens.NUMBER || Tokens.isName(token);
         }
 
         private static int level(int token) {
@@ -1025,7 +1055,7 @@ public final class MoorGuides {
                 if (knot >= 0) {
                     value = knot;
                     depth++;
-                } else if (token < names.length && token != Tokens.OR && token != Tokens.AND && token != Tokens.NOT) {
+                } else if (token < names.length && Tokens.isName(token)) {
                     value = names[token];
                     depth++;
                 } else if (token == Tokens.NOT && depth > 0) {
@@ -1044,6 +1074,7 @@ public final class MoorGuides {
             return depth == 1 ? values[0] : ERROR;
         }
 
+        /** Factors are looked at ahead, since a product of two allowed values may not fit a long. */
         private static long join(int token, long left, long right) {
             switch (token) {
                 case Tokens.OR:
@@ -1055,36 +1086,21 @@ public final class MoorGuides {
                 case Tokens.MINUS:
                     return left - right;
                 case Tokens.STAR:
-                    return times(left, right);
+                    return left != 0 && Math.abs(right) > MOST / Math.abs(left) ? ERROR : left * right;
                 case Tokens.SLASH:
                     return right == 0 ? ERROR : left / right;
-                default:
-                    return compares(token, left, right) ? 1 : 0;
-            }
-        }
-
-        /** The sizes are looked at first, since a product of two allowed values may not fit a long. */
-        private static long times(long left, long right) {
-            if (left != 0 && Math.abs(right) > MOST / Math.abs(left)) {
-                return ERROR;
-            }
-            return left * right;
-        }
-
-        private static boolean compares(int token, long left, long right) {
-            switch (token) {
                 case Tokens.BELOW:
-                    return left < right;
+                    return left < right ? 1 : 0;
                 case Tokens.AT_MOST:
-                    return left <= right;
+                    return left <= right ? 1 : 0;
                 case Tokens.EQUAL:
-                    return left == right;
+                    return left == right ? 1 : 0;
                 case Tokens.OTHER:
-                    return left != right;
+                    return left != right ? 1 : 0;
                 case Tokens.AT_LEAST:
-                    return left >= right;
+                    return left >= right ? 1 : 0;
                 default:
-                    return left > right;
+                    return left > right ? 1 : 0;
             }
         }
     }
@@ -1218,19 +1234,15 @@ public final class MoorGuides {
                 if ((seen >> to & 1) != 0) {
                     return steps;
                 }
-                seen |= besideAny(seen) & allowed;
+                int wider = seen;
+                for (int part = 0; part < parts; part++) {
+                    if ((seen >> part & 1) != 0) {
+                        wider |= beside[part];
+                    }
+                }
+                seen = wider & allowed;
             }
             return CANNOT;
-        }
-
-        private int besideAny(int bits) {
-            int found = 0;
-            for (int part = 0; part < parts; part++) {
-                if ((bits >> part & 1) != 0) {
-                    found |= beside[part];
-                }
-            }
-            return found;
         }
 
         boolean isNear(int part, int other) {
@@ -1273,7 +1285,7 @@ public final class MoorGuides {
         private final long[] names = new long[Tokens.NIGHT + 1];
 
         Stand(Moor first) {
-            moor = first;
+            begin(first);
         }
 
         void begin(Moor told) {
@@ -1372,30 +1384,32 @@ public final class MoorGuides {
             return last;
         }
 
-        int aroundTonight(int person, int part) {
-            return Integer.bitCount(moor.beside[part] & knownBits(person, night));
-        }
-
         int chanceTonight(int person, int part) {
             return chanceOn(person, part, night, aroundTonight(person, part), times[person]);
         }
 
         long lawTonight(Law law, int person, int part) {
-            return lawOn(law, person, part, night, aroundTonight(person, part), times[person]);
+            tellNames(person, part, night, aroundTonight(person, part), times[person]);
+            return law.workOut(names);
+        }
+
+        private int aroundTonight(int person, int part) {
+            return Integer.bitCount(moor.beside[part] & knownBits(person, night));
         }
 
         int chanceOn(int person, int part, int onNight, int around, int timesOut) {
-            long value = lawOn(moor.out, person, part, onNight, around, timesOut);
+            if (moor.out.size == 0) {
+                return moor.odds[part];
+            }
+            tellNames(person, part, onNight, around, timesOut);
+            long value = moor.out.workOut(names);
             if (value == Law.ERROR) {
                 return moor.odds[part];
             }
-            return (int) Math.max(0, Math.min(100, value));
+            return value > 100 ? 100 : value < 0 ? 0 : (int) value;
         }
 
-        private long lawOn(Law law, int person, int part, int onNight, int around, int timesOut) {
-            if (law.size == 0) {
-                return Law.ERROR;
-            }
+        private void tellNames(int person, int part, int onNight, int around, int timesOut) {
             names[Tokens.ODDS] = moor.odds[part];
             names[Tokens.AROUND] = around;
             names[Tokens.WEATHER] = moor.weatherOn(onNight);
@@ -1403,7 +1417,6 @@ public final class MoorGuides {
             names[Tokens.WANTED] = moor.wantedOn(part, onNight);
             names[Tokens.COST] = moor.people.cost[person];
             names[Tokens.NIGHT] = onNight;
-            return law.workOut(names);
         }
 
         void loseNobody() {
@@ -1426,7 +1439,8 @@ public final class MoorGuides {
 
         private void spend(int person, int part) {
             number = number * 1103515245L + 12345L & 0x7fffffffL;
-            if (number / 65536 % 100 >= chanceTonight(person, part)) {
+            int around = aroundTonight(person, part);
+            if (number / 65536 % 100 >= chanceOn(person, part, night, around, times[person])) {
                 gone |= 1 << person;
                 return;
             }
@@ -1452,7 +1466,7 @@ public final class MoorGuides {
         private static final int HAND = 16;
         private static final int FAR = 1 << 20;
 
-        private Stand stand;
+        private final Stand stand;
         private final int[] known = new int[MOST_PEOPLE];
         /** From a part with a guide to the goal: hands times HAND and parts. */
         private final int[][] left = new int[MOST_PARTS][MOST_PEOPLE];
@@ -1464,13 +1478,16 @@ public final class MoorGuides {
         int length;
         int hands;
 
-        boolean find(Stand now, int party) {
+        Leading(Stand now) {
             stand = now;
+        }
+
+        boolean find(int party) {
             length = 0;
             hands = 0;
-            Moor moor = now.moor;
+            Moor moor = stand.moor;
             for (int guide = 0; guide < moor.people.size; guide++) {
-                known[guide] = now.knownBits(guide, moor.partyNight[party]);
+                known[guide] = stand.knownBits(guide, moor.partyNight[party]);
             }
             measure(moor.goal[party]);
             int from = moor.start[party];
@@ -1571,6 +1588,9 @@ public final class MoorGuides {
         }
 
         private boolean isBest(int part, int guide, int next, int nextGuide) {
+            if (guide < 0 || guide >= MOST_PEOPLE || nextGuide < 0 || nextGuide >= MOST_PEOPLE) {
+                return false;
+            }
             int hand = guide == nextGuide ? 0 : HAND;
             return left[next][nextGuide] < FAR && left[part][guide] == 1 + hand + left[next][nextGuide];
         }
@@ -1605,18 +1625,23 @@ public final class MoorGuides {
     private static final class Sharing {
         private static final int ALL_GUIDES = (1 << MOST_PEOPLE) - 1;
 
+        private final Stand stand;
         /** The most price of the parties from one on, by the guides (bits) that are free. */
         private final int[][] most = new int[MOST_PARTIES + 1][ALL_GUIDES + 1];
         private final int[] leaders = new int[MOST_PARTIES];
         private final int[] known = new int[MOST_PARTIES];
         final int[] guides = new int[MOST_PARTIES];
 
+        Sharing(Stand now) {
+            stand = now;
+        }
+
         int sum() {
             return most[0][ALL_GUIDES];
         }
 
-        void find(Stand stand, int night, int without) {
-            nameLeaders(stand, night, without);
+        void find(int night, int without) {
+            nameLeaders(night, without);
             int parties = stand.moor.parties;
             for (int free = 0; free <= ALL_GUIDES; free++) {
                 most[parties][free] = 0;
@@ -1629,7 +1654,7 @@ public final class MoorGuides {
             nameGuides(stand.moor);
         }
 
-        private void nameLeaders(Stand stand, int night, int without) {
+        private void nameLeaders(int night, int without) {
             Moor moor = stand.moor;
             for (int party = 0; party < moor.parties; party++) {
                 leaders[party] = 0;
@@ -1673,7 +1698,7 @@ public final class MoorGuides {
         }
 
         /** CANNOT, if not even one who knows all is enough. */
-        int fewestParts(Stand stand, int parties) {
+        int fewestParts(int parties) {
             Moor moor = stand.moor;
             for (int party = 0; party < moor.parties; party++) {
                 known[party] = (parties >> party & 1) != 0 ? stand.knownByAny(moor.partyNight[party]) : 0;
@@ -1703,7 +1728,7 @@ public final class MoorGuides {
     private static final class Ordering {
         private static final int MOST_AROUND = MOST_PARTS + 1;
 
-        private Stand stand;
+        private final Stand stand;
         private int person = NONE;
         private int all;
         /** By step, part and how many around are known. */
@@ -1720,15 +1745,18 @@ public final class MoorGuides {
         final int[] best = new int[MOST_PARTS];
         int length;
 
+        Ordering(Stand now) {
+            stand = now;
+        }
+
         void drop() {
             person = NONE;
         }
 
-        void find(Stand now, int who, int parts) {
+        void find(int who, int parts) {
             if (who == person && parts == all) {
                 return;
             }
-            stand = now;
             person = who;
             all = parts;
             length = Math.min(Integer.bitCount(parts), MOST_PARTS);
@@ -1850,7 +1878,6 @@ public final class MoorGuides {
         private static final int SAFE_ONE = 2;
 
         private final Stand trial;
-        private final int[] known = new int[MOST_PEOPLE];
         int person;
         int part;
         int money;
@@ -1860,37 +1887,35 @@ public final class MoorGuides {
             trial = new Stand(moor);
         }
 
-        /** False, if there is nobody to pick. */
+        /** False, if there is nobody to pick; only a greater rate takes the place of one ahead. */
         boolean choose(Stand stand, int master) {
             person = NONE;
             part = NONE;
             long best = Long.MIN_VALUE;
             for (int who = 0; who < stand.moor.people.size; who++) {
-                if (stand.isThere(who, stand.night)) {
-                    int knownNow = stand.knownBits(who, stand.night);
-                    for (int where = 0; where < stand.moor.parts; where++) {
-                        if ((knownNow >> where & 1) == 0) {
-                            long worth = rate(stand, master, who, where, knownNow);
-                            if (worth > best) {
-                                best = worth;
-                                person = who;
-                                part = where;
-                            }
-                        }
+                int known = stand.knownBits(who, stand.night);
+                int open = stand.isThere(who, stand.night) ? stand.moor.allParts() & ~known : 0;
+                for (int where = 0; where < stand.moor.parts && open != 0; where++) {
+                    int around = Integer.bitCount(stand.moor.beside[where] & known);
+                    long rate = (open >> where & 1) != 0 ? rate(stand, master, who, where, around) : best;
+                    if (rate > best) {
+                        best = rate;
+                        person = who;
+                        part = where;
                     }
                 }
             }
             return person != NONE;
         }
 
-        private static long rate(Stand stand, int master, int who, int where, int knownNow) {
+        private static long rate(Stand stand, int master, int who, int where, int around) {
             switch (master) {
                 case NEAR_ONE:
-                    return (stand.moor.beside[where] & knownNow) != 0 ? 1 : 0;
+                    return around > 0 ? 1 : 0;
                 case WAY_ONE:
                     return stand.moor.wantedOn(where, stand.night);
                 case SAFE_ONE:
-                    return stand.chanceTonight(who, where);
+                    return stand.chanceOn(who, where, stand.night, around, stand.times[who]);
                 default:
                     long value = stand.lawTonight(stand.moor.pick, who, where);
                     return value == Law.ERROR ? 0 : value;
