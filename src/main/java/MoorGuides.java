@@ -475,10 +475,15 @@ public final class MoorGuides {
             "part beside person knows cost from till forget party weather slide near seed law out pick or and not odds around times wanted night ";
         /** The signs by their numbers from SEMICOLON on; in place of those of two signs a blank. */
         private static final String SIGNS = ";()+-*/< =  >";
+        private static final int WORD_COUNT = NIGHT + 1;
         private static final int LONGEST_NAME = 6;
+        /** So many letters of 5 bits fit a long; no word of the language is as long. */
+        private static final int MOST_LETTERS = 12;
         /** Above every number that a text may hold; larger ones stop growing here. */
         private static final int TOO_LARGE = 1000000;
 
+        /** The letters of each word, 5 bits each. */
+        private final long[] words = new long[WORD_COUNT];
         private final int[] kinds = new int[MOST_BYTES + 1];
         private final int[] places = new int[MOST_BYTES + 1];
         /** Of a number its value, of a word its letters. */
@@ -490,6 +495,17 @@ public final class MoorGuides {
         int token;
         int place;
         int value;
+
+        Tokens() {
+            int word = 0;
+            for (int i = 0; i < WORDS.length() && word < WORD_COUNT; i++) {
+                if (WORDS.charAt(i) == ' ') {
+                    word++;
+                } else {
+                    words[word] = words[word] << 5 | WORDS.charAt(i) - 'a' + 1;
+                }
+            }
+        }
 
         void begin(byte[] source, int sourceLength) {
             bytes = source;
@@ -540,37 +556,30 @@ public final class MoorGuides {
         }
 
         private int cutWord(int at) {
-            int letters = 0;
+            long letters = 0;
             int end = at;
             for (int i = 0; i < length && isLetter(byteAt(end)); i++) {
-                if (i < LONGEST_NAME) {
-                    letters |= byteAt(end) - 'a' + 1 << 5 * (LONGEST_NAME - 1 - i);
+                if (i < MOST_LETTERS) {
+                    letters = letters << 5 | byteAt(end) - 'a' + 1;
                 }
                 end++;
             }
-            int word = wordNumber(at, end - at);
+            int word = wordNumber(letters);
+            int missing = LONGEST_NAME - (end - at);
             if (word != NONE) {
                 add(word, at, 0);
+            } else if (missing >= 0) {
+                add(NAME, at, (int) (letters << 5 * missing));
             } else {
-                add(end - at <= LONGEST_NAME ? NAME : BAD, at, letters);
+                add(BAD, at, 0);
             }
             return end;
         }
 
-        private int wordNumber(int at, int letterCount) {
-            int word = 0;
-            int letter = 0;
-            boolean same = true;
-            for (int i = 0; i < WORDS.length(); i++) {
-                if (WORDS.charAt(i) != ' ') {
-                    same = same && letter < letterCount && WORDS.charAt(i) == byteAt(at + letter);
-                    letter++;
-                } else if (same && letter == letterCount) {
+        private int wordNumber(long letters) {
+            for (int word = 0; word < WORD_COUNT; word++) {
+                if (words[word] == letters) {
                     return word;
-                } else {
-                    word++;
-                    letter = 0;
-                    same = true;
                 }
             }
             return NONE;

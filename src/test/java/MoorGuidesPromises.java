@@ -1032,6 +1032,65 @@ public final class MoorGuidesPromises {
         due("another what", x.count(-1), -1);
     }
 
+    private static final int[] FAR = {Integer.MIN_VALUE, Integer.MIN_VALUE + 1, -1000, -33, -32, -3, -2, -1, 0, 1, 2, 3, 4, 5, 6, 7,
+        8, 9, 31, 32, 33, 63, 64, 255, 256, 999, 1000, 1 << 30, Integer.MAX_VALUE};
+
+    /** No arguments whatever, ahead of a text or behind one, may make a call throw. */
+    private static void farArguments() {
+        promise = "far arguments";
+        String full = eightParts() + "person a knows a;person b knows b;person c;person d;person e;person f;"
+            + many("party a h 0 9;", 8) + many("slide a 1;", 4) + "near 8;seed 99999;law out odds / (odds - 50);"
+            + "law pick 9999 * 9999 * 9999 * 9999;";
+        for (String text : new String[] {"", "part a 1;", "person x;", full}) {
+            for (int a : FAR) {
+                for (int b : FAR) {
+                    MoorGuides x = told(text);
+                    farCalls(x, a, b);
+                    for (int i = 0; i < 5; i++) {
+                        x.nights(200);
+                    }
+                    farCalls(x, b, a);
+                }
+            }
+        }
+    }
+
+    private static void farCalls(MoorGuides x, int a, int b) {
+        x.named(a, b);
+        due("look", thrown(x, a, b), a < 0 || a >= x.count(1) ? 1 : b < 0 || b > 5 ? 2 : 0);
+        x.part(a, b);
+        x.steps(a, b);
+        x.chance(a, b);
+        x.lose(a, b);
+        x.led(a, b);
+        x.round(a, b);
+        x.share(a, b);
+        x.worth(a, b);
+        x.stranger(a, b);
+        x.fewest(a, b);
+        x.pick(a, b);
+        x.against(a);
+        x.slide(a);
+        x.wrongly();
+        x.keep();
+        x.count(a);
+        x.fault(a);
+        for (int c : new int[] {Integer.MIN_VALUE, -1, 0, 1, 7, Integer.MAX_VALUE}) {
+            x.knows(a, b, c);
+            x.law(c, a, b);
+            x.way(a, b, c);
+            x.order(a, b, c);
+            x.ordered(a, b, c);
+            x.season(c, a, b, 0);
+            x.season(0, c, a, b);
+            x.claim(a, b, c);
+        }
+        x.undo();
+        x.nights(a);
+        x.back();
+        x.text(a);
+    }
+
     public static void main(String[] args) {
         newObject();
         feeding();
@@ -1062,6 +1121,7 @@ public final class MoorGuidesPromises {
         undoing();
         images();
         counting();
+        farArguments();
         System.out.println(answers + " answers, " + wrong + " not as due");
         if (wrong != 0) {
             System.exit(1);
