@@ -642,7 +642,7 @@ public final class MoorGuides {
         private static final int TOO_MUCH = 2;
         private static final int TOLD_ALREADY = 3;
         private static final int NOT_TOLD = 4;
-        private static final int MOST_COST = 99;
+        private static final int MOST_MONEY = 99;
         private static final int MOST_OF_LAW = 9999;
 
         private static final int LEVEL_OR = 1;
@@ -725,7 +725,7 @@ public final class MoorGuides {
                 case Tokens.SEED:
                     return passUnless(seedTold, TOLD_ALREADY) && readSeed();
                 case Tokens.LAW:
-                    return passUnless(false, TOLD_ALREADY) && readLaw();
+                    return pass(Tokens.LAW) && readLaw();
                 default:
                     return fail(WRONG_TOKEN);
             }
@@ -789,7 +789,7 @@ public final class MoorGuides {
             int number;
             switch (option) {
                 case Tokens.COST:
-                    number = readNumber(0, MOST_COST);
+                    number = readNumber(0, MOST_MONEY);
                     people.cost[person] = number;
                     return number >= 0;
                 case Tokens.FROM:
@@ -811,7 +811,7 @@ public final class MoorGuides {
             int from = readToldPart();
             int to = from < 0 ? NONE : readToldPart();
             int night = to < 0 ? NONE : readNumber(0, LAST_NIGHT);
-            int price = night < 0 ? NONE : readNumber(0, MOST_COST);
+            int price = night < 0 ? NONE : readNumber(0, MOST_MONEY);
             if (price < 0) {
                 return false;
             }

@@ -213,6 +213,10 @@ public final class MoorGuidesPromises {
         fine("part a1beside;".replace("beside", ""), 1);
         fine("", 0);
         fine(" \n ", 0);
+        faulty(many(";", 900), 1, 0);
+        faulty("law out" + many("(", 893), 2, 15);
+        faulty("law out 1" + many(" ", 891), 1, 900);
+        fine("near 1;" + many(" ", 893), 1);
     }
 
     private static void faultsOfSizes() {
@@ -235,6 +239,7 @@ public final class MoorGuidesPromises {
         fine("person x cost 99;", 1);
         faulty("person x cost 100;", 2, 14);
         fine("person x from 999;", 1);
+        fine("person x from 0;", 1);
         faulty("person x from 1000;", 2, 14);
         fine("person x till 0;", 1);
         faulty("person x till 1000;", 2, 14);
@@ -285,6 +290,7 @@ public final class MoorGuidesPromises {
         faulty("person x from 1 from 1;", 3, 16);
         faulty("person x till 1 till 1;", 3, 16);
         faulty("person x forget 1 forget 1;", 3, 18);
+        faulty("person x cost 1 from 1 cost 1;", 3, 23);
         faulty("weather 1;weather 1;", 3, 10);
         faulty("near 0;near 0;", 3, 7);
         faulty("seed 0;seed 0;", 3, 7);
@@ -669,6 +675,12 @@ public final class MoorGuidesPromises {
         x = told("part a 1;part b 1 beside a;party a b 3 1;person p knows a;person q knows b from 3;person r knows b till 3;");
         due("on its night", x.led(0, 0), 1);
         due("by q", x.way(0, 1, 1), 1);
+        x = told("part a 1;part b 1 beside a;part c 1 beside a;part d 1 beside b beside c;party a d 0 1;"
+            + "person p knows a knows c knows d;person q knows a knows b knows d;");
+        due("first by parts", x.way(0, 1, 0), 1);
+        for (int k = 0; k < 3; k++) {
+            due("then by guides who can go on", x.way(0, k, 1), 1);
+        }
         x = told("part a 1;part b 1;party a b 0 1;party a a 0 1;person p knows a knows b;");
         due("no way", x.led(0, 0), -2);
         due("no way", x.way(0, 0, 1), -2);
@@ -718,6 +730,15 @@ public final class MoorGuidesPromises {
         due("of several the first", x.share(0, 0), 0);
         due("then the next", x.share(0, 1), 1);
         due("behind all", x.share(0, 2), -2);
+        due("after a longer text", tell(x, "part a 1;person p knows a;party a a 0 3;"), 3);
+        due("the sum of one", x.share(0, -1), 3);
+        tell(x, "part a 1;person p;person q;person r;person s;person t;person u knows a;party a a 0 3;");
+        due("by the last one", x.share(0, 0), 5);
+        tell(x, "part a 1;person p knows a;person q knows a;person r knows a;person s knows a;person t knows a;"
+            + "person u knows a;" + many("party a a 0 3;", 8));
+        due("six of eight", x.share(0, -1), 18);
+        due("the sixth", x.share(0, 5), 5);
+        due("the seventh", x.share(0, 6), -2);
     }
 
     private static void strangers() {
@@ -748,6 +769,12 @@ public final class MoorGuidesPromises {
         due("not by all", x.fewest(8, 0), -2);
         due("not by all", x.fewest(9, 1), -2);
         due("none", x.fewest(0, 1), 0);
+        StringBuilder row = new StringBuilder("part a 1;");
+        for (char c = 'b'; c <= 'h'; c++) {
+            row.append("part ").append(c).append(" 1 beside ").append((char) (c - 1)).append(';');
+        }
+        due("all eight", told(row + "party a h 0 0;").fewest(1, 1), 255);
+        due("seven", told(row + "party b h 0 0;").fewest(1, 1), 254);
         due("no such party", x.fewest(16, 0), -1);
         due("below 0", x.fewest(-1, 0), -1);
         due("no such what", x.fewest(1, 2), -1);
@@ -799,11 +826,19 @@ public final class MoorGuidesPromises {
         x = told("part a 99;part b 99;part c 99;part d 99;part e 99;part f 99;part g 99;part h 99;person x;");
         orderIs(x, 255, "abcdefgh", 9227446944279201L, 10000000000000000L);
         x = told("part a 100;part b 20 beside a;person x knows a;law out odds + around;");
+        due("asked for first", x.ordered(0, 3, 0), 0);
+        x.keep();
+        x.nights(3);
+        x.slide(0);
+        due("slid", x.order(0, 2, 0), 1);
+        x.back();
         due("ahead of a slide", x.order(0, 2, 0), 21);
         x.slide(0);
         due("behind it", x.order(0, 2, 0), 1);
         x.undo();
         due("undone", x.order(0, 2, 0), 21);
+        tell(x, "part a 100;part b 7;person x;");
+        due("another text", x.order(0, 2, 0), 7);
     }
 
     private static void picks(MoorGuides x, int master, int person, int part) {
@@ -905,6 +940,12 @@ public final class MoorGuidesPromises {
         due("12", x.count(6), 12);
         x.claim(1, 0, 0);
         due("still", x.wrongly(), 3);
+        x = told("part a 1;part b 1 beside a;person p;person q;person r;person s;person t;person u;near 1;");
+        for (int i = 0; i < 12; i++) {
+            x.claim(i / 2, 5, i % 2);
+        }
+        due("one alone can be", x.wrongly(), 0x7ff);
+        due("against all", x.against(7), 11);
     }
 
     private static void sliding() {
@@ -953,6 +994,16 @@ public final class MoorGuidesPromises {
         }
         due("the oldest one is not undone", x.look(0, 5), 0);
         due("none", x.undo(), -1);
+        tell(x, "part a 100;part b 100;person x;person y;person z;");
+        for (int i = 0; i < 22; i++) {
+            x.lose(i % 3, i % 2);
+        }
+        for (int i = 19; i >= 0; i--) {
+            due("undo", x.undo(), i);
+        }
+        due("x as at first", x.look(0, 5), 0);
+        due("y as at first", x.look(1, 5), 1);
+        due("z not lost", x.look(2, 5), -1);
         x.slide(1);
         x.lose(0, 0);
         x.nights(1);

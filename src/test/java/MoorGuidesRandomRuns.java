@@ -1327,7 +1327,7 @@ public final class MoorGuidesRandomRuns {
     }
 
     public static void main(String[] args) {
-        int runs = args.length > 0 ? Integer.parseInt(args[0]) : 400;
+        int runs = args.length > 0 ? Integer.parseInt(args[0]) : 3000;
         int first = args.length > 1 ? Integer.parseInt(args[1]) : 0;
         for (int seed = first; seed < first + runs && wrong < 40; seed++) {
             new MoorGuidesRandomRuns(seed).run();
