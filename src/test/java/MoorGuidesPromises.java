@@ -1,89 +1,7 @@
-import java.util.NoSuchElementException;
-
 /** Each promise of the document by itself: ordinary inputs, the edges that it names, wrong inputs. */
-public final class MoorGuidesPromises {
-    private static int wrong;
-    private static int answers;
-    private static String promise = "";
-
-    private static void due(String call, long got, long want) {
-        answers++;
-        if (got != want) {
-            wrong++;
-            System.out.println(promise + ": " + call + " answered " + got + ", due is " + want);
-        }
-    }
-
-    private static void due(String call, boolean got, boolean want) {
-        due(call, got ? 1 : 0, want ? 1 : 0);
-    }
-
-    private static int feed(MoorGuides x, String text) {
-        int size = 0;
-        for (int i = 0; i < text.length(); i += 20) {
-            int[] five = new int[5];
-            for (int j = 0; j < 20; j++) {
-                char sign = i + j < text.length() ? text.charAt(i + j) : ' ';
-                five[j / 4] = five[j / 4] << 8 | sign;
-            }
-            size = x.feed(five[0], five[1], five[2], five[3], five[4]);
-        }
-        return size;
-    }
-
-    private static int tell(MoorGuides x, String text) {
-        feed(x, text);
-        return x.text(text.length());
-    }
-
-    private static MoorGuides told(String text) {
-        MoorGuides x = new MoorGuides();
-        int lines = tell(x, text);
-        if (lines < 0) {
-            due("fault of " + text + " at " + x.fault(1), x.fault(0), 0);
-        }
-        return x;
-    }
-
-    private static void faulty(String text, int kind, int place) {
-        MoorGuides x = new MoorGuides();
-        due("text " + text, tell(x, text), -1);
-        due("fault(0) of " + text, x.fault(0), kind);
-        due("fault(1) of " + text, x.fault(1), place);
-    }
-
-    private static void fine(String text, int lines) {
-        MoorGuides x = new MoorGuides();
-        due("text " + text, tell(x, text), lines);
-        due("fault(0) of " + text, x.fault(0), 0);
-        due("fault(1) of " + text, x.fault(1), -1);
-    }
-
-    private static int letters(String name) {
-        int code = 0;
-        for (int i = 0; i < 6; i++) {
-            code = code << 5 | (i < name.length() ? name.charAt(i) - 'a' + 1 : 0);
-        }
-        return code;
-    }
-
-    private static String many(String text, int times) {
-        return text.repeat(times);
-    }
-
-    private static String eightParts() {
-        StringBuilder s = new StringBuilder();
-        for (char c = 'a'; c <= 'h'; c++) {
-            s.append("part ").append(c).append(" 50;");
-        }
-        return s.toString();
-    }
-
-    /** a - b - c - d in a row, e alone. */
-    private static final String ROW = "part a 10;part b 20 beside a;part c 30 beside b;part d 40 beside c;part e 50;";
-
+public final class MoorGuidesPromises extends Dues {
     private static void newObject() {
-        promise = "1 a new object";
+        of("1 a new object");
         MoorGuides x = new MoorGuides();
         for (int what = 0; what <= 9; what++) {
             due("count " + what, x.count(what), 0);
@@ -103,7 +21,7 @@ public final class MoorGuidesPromises {
     }
 
     private static void feeding() {
-        promise = "2 feed";
+        of("2 feed");
         MoorGuides x = new MoorGuides();
         for (int i = 1; i <= 45; i++) {
             due("feed", x.feed(0x20202020, 0x20202020, 0x20202020, 0x20202020, 0x20202020), 20 * i);
@@ -120,7 +38,7 @@ public final class MoorGuidesPromises {
     }
 
     private static void texts() {
-        promise = "3 text";
+        of("3 text");
         MoorGuides x = new MoorGuides();
         feed(x, "near 3;");
         due("below 0", x.text(-1), -2);
@@ -158,7 +76,7 @@ public final class MoorGuidesPromises {
     }
 
     private static void faultsOfTokens() {
-        promise = "4 fault (1)";
+        of("4 fault (1)");
         faulty("part", 1, 4);
         faulty("part a", 1, 6);
         faulty("part a 1", 1, 8);
@@ -220,13 +138,13 @@ public final class MoorGuidesPromises {
     }
 
     private static void faultsOfSizes() {
-        promise = "4 fault (2)";
+        of("4 fault (2)");
         fine("part a 100;", 1);
         faulty("part a 101;", 2, 7);
         faulty("part a 99999999999999999999;", 2, 7);
         fine("part a 000000000000000000000100;", 1);
-        fine(eightParts(), 8);
-        faulty(eightParts() + "part a 1;", 2, 80);
+        fine(parts(8), 8);
+        faulty(parts(8) + "part a 1;", 2, 80);
         String people = "person a;person b;person c;person d;person e;person f;";
         fine(people, 6);
         faulty(people + "person a;", 2, 54);
@@ -280,7 +198,7 @@ public final class MoorGuidesPromises {
     }
 
     private static void faultsOfNames() {
-        promise = "4 fault (3, 4)";
+        of("4 fault (3, 4)");
         faulty("part a 1;part a 1;", 3, 14);
         fine("part a 1;person a;", 2);
         faulty("person a;person a;", 3, 16);
@@ -317,7 +235,7 @@ public final class MoorGuidesPromises {
     }
 
     private static void names() {
-        promise = "5 named";
+        of("5 named");
         MoorGuides x = told("part a 1;part zzzzzz 1;part ab 1;person ab;person b;");
         due("a", x.named(0, letters("a")), 0);
         due("zzzzzz", x.named(0, letters("zzzzzz")), 1);
@@ -333,19 +251,8 @@ public final class MoorGuidesPromises {
         due("below 0", x.named(0, letters("a") | 1 << 31), -1);
     }
 
-    private static int thrown(MoorGuides x, int person, int what) {
-        try {
-            x.look(person, what);
-            return 0;
-        } catch (IndexOutOfBoundsException e) {
-            return 1;
-        } catch (NoSuchElementException e) {
-            return 2;
-        }
-    }
-
     private static void looks() {
-        promise = "6 look";
+        of("6 look");
         MoorGuides x = told("part a 0;part b 100;person x knows b cost 0;person y from 1 till 2 knows a;person z cost 7;");
         due("there", x.look(0, 0), 1);
         due("not there yet", x.look(1, 0), 0);
@@ -376,8 +283,8 @@ public final class MoorGuidesPromises {
         due("no such what", thrown(x, 0, -1), 2);
     }
 
-    private static void parts() {
-        promise = "7 part";
+    private static void partsAsked() {
+        of("7 part");
         MoorGuides x = told(ROW + "person x knows a knows b;person y knows b;"
             + "party a b 0 1;party b b 1 1;party c a 2 1;");
         due("odds", x.part(3, 0), 40);
@@ -400,7 +307,7 @@ public final class MoorGuidesPromises {
     }
 
     private static void knowing() {
-        promise = "8 knows";
+        of("8 knows");
         MoorGuides x = told("part a 100;part b 100;person x knows a knows b forget 4 from 1 till 9;slide b 3;"
             + "person y knows a knows b;slide a 0;");
         due("not there", x.knows(0, 1, 0), 0);
@@ -433,7 +340,7 @@ public final class MoorGuidesPromises {
     }
 
     private static void stepping() {
-        promise = "9 steps";
+        of("9 steps");
         MoorGuides x = told(ROW);
         due("0", x.steps(0, 0), 0);
         due("1", x.steps(2, 1), 1);
@@ -441,11 +348,7 @@ public final class MoorGuidesPromises {
         due("no way", x.steps(0, 4), -2);
         due("no such part", x.steps(0, 5), -1);
         due("no such part", x.steps(-1, 0), -1);
-        StringBuilder row = new StringBuilder("part a 1;");
-        for (char c = 'b'; c <= 'h'; c++) {
-            row.append("part ").append(c).append(" 1 beside ").append((char) (c - 1)).append(';');
-        }
-        due("as far as can be", told(row.toString()).steps(7, 0), 7);
+        due("as far as can be", told(longRow()).steps(7, 0), 7);
     }
 
     private static int chanceBy(String law) {
@@ -453,7 +356,7 @@ public final class MoorGuidesPromises {
     }
 
     private static void chances() {
-        promise = "10 chance";
+        of("10 chance");
         MoorGuides x = told("part a 33;person x from 1;person y;");
         due("odds", x.chance(1, 0), 33);
         due("not there", x.chance(0, 0), -1);
@@ -482,7 +385,7 @@ public final class MoorGuidesPromises {
     }
 
     private static void laws() {
-        promise = "11 law";
+        of("11 law");
         long error = Long.MIN_VALUE;
         lawIs("odds", 33);
         lawIs("around", 1);
@@ -549,7 +452,7 @@ public final class MoorGuidesPromises {
     }
 
     private static void losing() {
-        promise = "12 lose";
+        of("12 lose");
         MoorGuides x = told("part a 100;part b 0;person x;person y from 1;");
         due("lost", x.lose(0, 1), true);
         due("lost elsewhere", x.lose(0, 0), true);
@@ -571,7 +474,7 @@ public final class MoorGuidesPromises {
     }
 
     private static void nightsGoBy() {
-        promise = "13 nights";
+        of("13 nights");
         MoorGuides x = told(ROW + "person x;person y;person z;near 1;law out 100;");
         x.lose(0, 0);
         x.lose(1, 1);
@@ -615,7 +518,7 @@ public final class MoorGuidesPromises {
 
     /** The number that decides, as the document tells it, one by one. */
     private static void numbers() {
-        promise = "13 numbers";
+        of("13 numbers");
         long last = 4711;
         MoorGuides x = told("part a 0;part b 0;person x;person y;seed 4711;law out 50;");
         for (int night = 0; night < 12; night++) {
@@ -640,7 +543,7 @@ public final class MoorGuidesPromises {
     }
 
     private static void leading() {
-        promise = "14 led, 15 way";
+        of("14 led, 15 way");
         String ring = "part a 1;part b 1 beside a;part c 1 beside b;part d 1 beside c;part e 1 beside a;part f 1 beside e beside d;";
         MoorGuides x = told(ring + "party a d 0 1;person p knows a knows b;person q knows b knows c knows d;"
             + "person r knows a knows e;person s knows e knows f knows d;");
@@ -688,7 +591,7 @@ public final class MoorGuidesPromises {
     }
 
     private static void roundabout() {
-        promise = "16 round";
+        of("16 round");
         MoorGuides x = told("part a 1;part b 1 beside a;part c 1 beside b;part d 1 beside a;part e 1 beside d beside c;"
             + "part f 1;part g 1 beside c;party a c 0 1;party a f 0 1;party a g 0 1;");
         due("one more", x.round(0, 1), 1);
@@ -703,7 +606,7 @@ public final class MoorGuidesPromises {
     }
 
     private static void sharing() {
-        promise = "17 share, 18 worth";
+        of("17 share, 18 worth");
         String moor = "part a 1;part b 1 beside a;part c 1;";
         MoorGuides x = told(moor + "person p knows a knows b;person q knows b;person r knows c;"
             + "party a b 2 10;party b b 2 10;party b b 2 11;party c c 2 0;party c c 3 4;party a c 2 50;");
@@ -742,7 +645,7 @@ public final class MoorGuidesPromises {
     }
 
     private static void strangers() {
-        promise = "19 stranger";
+        of("19 stranger");
         MoorGuides x = told(ROW + "person p knows a;person q knows c;party a c 1 10;party b b 1 5;party a a 1 2;party a e 1 90;party b b 2 7;");
         due("b", x.stranger(2, 1), 15);
         due("b, another night", x.stranger(2, 2), 7);
@@ -756,7 +659,7 @@ public final class MoorGuidesPromises {
     }
 
     private static void fewestParts() {
-        promise = "20 fewest";
+        of("20 fewest");
         MoorGuides x = told("part a 1;part b 1 beside a;part c 1 beside b;part d 1 beside a;part e 1 beside d beside c;part f 1;"
             + "person p knows a knows c forget 3;party a c 0 1;party a c 4 1;party a e 0 1;party a f 0 1;");
         due("by b", x.fewest(1, 0), 1);
@@ -769,12 +672,8 @@ public final class MoorGuidesPromises {
         due("not by all", x.fewest(8, 0), -2);
         due("not by all", x.fewest(9, 1), -2);
         due("none", x.fewest(0, 1), 0);
-        StringBuilder row = new StringBuilder("part a 1;");
-        for (char c = 'b'; c <= 'h'; c++) {
-            row.append("part ").append(c).append(" 1 beside ").append((char) (c - 1)).append(';');
-        }
-        due("all eight", told(row + "party a h 0 0;").fewest(1, 1), 255);
-        due("seven", told(row + "party b h 0 0;").fewest(1, 1), 254);
+        due("all eight", told(longRow() + "party a h 0 0;").fewest(1, 1), 255);
+        due("seven", told(longRow() + "party b h 0 0;").fewest(1, 1), 254);
         due("no such party", x.fewest(16, 0), -1);
         due("below 0", x.fewest(-1, 0), -1);
         due("no such what", x.fewest(1, 2), -1);
@@ -791,7 +690,7 @@ public final class MoorGuidesPromises {
     }
 
     private static void ordering() {
-        promise = "21 order, 22 ordered";
+        of("21 order, 22 ordered");
         String row = "part a 10;part b 20 beside a;part c 30 beside b;part d 50 beside c;";
         orderIs(told(row + "person x;"), 15, "abcd", 3, 1000);
         orderIs(told(row + "person x;law out odds + around * 20;"), 15, "dcba", 3, 100);
@@ -847,7 +746,7 @@ public final class MoorGuidesPromises {
     }
 
     private static void picking() {
-        promise = "23 pick";
+        of("23 pick");
         String row = "part a 10;part b 20 beside a;part c 30 beside b;part d 40 beside c;";
         picks(told(row + "person x;person y knows c;"), 0, 1, 1);
         picks(told(row + "person x knows a knows b knows c knows d;person y;"), 0, 1, 0);
@@ -872,7 +771,7 @@ public final class MoorGuidesPromises {
     }
 
     private static void seasons() {
-        promise = "24 season";
+        of("24 season");
         MoorGuides x = told("part a 100;part b 100 beside a;person x cost 3;party a a 0 7;party a a 1 10;party a b 1 20;"
             + "party a b 2 40;party b b 49 80;");
         due("ahead of those lost", x.season(0, 1, 1, 0), -3);
@@ -911,7 +810,7 @@ public final class MoorGuidesPromises {
     }
 
     private static void claiming() {
-        promise = "25 claim, 26 wrongly, 27 against";
+        of("25 claim, 26 wrongly, 27 against");
         MoorGuides x = told(ROW + "person x;person y;person z;near 1;");
         due("none", x.wrongly(), 0);
         due("0", x.claim(0, 999, 0), 0);
@@ -949,7 +848,7 @@ public final class MoorGuidesPromises {
     }
 
     private static void sliding() {
-        promise = "28 slide";
+        of("28 slide");
         MoorGuides x = told("part a 100;person x knows a;slide a 50;");
         x.lose(0, 0);
         x.nights(1);
@@ -970,7 +869,7 @@ public final class MoorGuidesPromises {
     }
 
     private static void undoing() {
-        promise = "29 undo";
+        of("29 undo");
         MoorGuides x = told("part a 100;part b 100;person x knows a;");
         due("none", x.undo(), -1);
         x.lose(0, 0);
@@ -1012,7 +911,7 @@ public final class MoorGuidesPromises {
     }
 
     private static void images() {
-        promise = "30 keep, 31 back";
+        of("30 keep, 31 back");
         MoorGuides x = told("part a 100;part b 0;person x;person y;seed 9;law out odds - weather;weather 0 1;");
         due("none", x.back(), -1);
         x.nights(2);
@@ -1061,7 +960,7 @@ public final class MoorGuidesPromises {
     }
 
     private static void counting() {
-        promise = "32 count";
+        of("32 count");
         MoorGuides x = told("part a 0;part b 1;person x;person y;person z;party a a 0 0;slide a 1;slide a 2;slide b 3;slide b 4;"
             + "near 6;law out (1 + odds) * 2;law pick not 3 >= 4 and 5 or 6;");
         x.slide(0);
@@ -1088,8 +987,8 @@ public final class MoorGuidesPromises {
 
     /** No arguments whatever, ahead of a text or behind one, may make a call throw. */
     private static void farArguments() {
-        promise = "far arguments";
-        String full = eightParts() + "person a knows a;person b knows b;person c;person d;person e;person f;"
+        of("far arguments");
+        String full = parts(8) + "person a knows a;person b knows b;person c;person d;person e;person f;"
             + many("party a h 0 9;", 8) + many("slide a 1;", 4) + "near 8;seed 99999;law out odds / (odds - 50);"
             + "law pick 9999 * 9999 * 9999 * 9999;";
         for (String text : new String[] {"", "part a 1;", "person x;", full}) {
@@ -1151,7 +1050,7 @@ public final class MoorGuidesPromises {
         faultsOfNames();
         names();
         looks();
-        parts();
+        partsAsked();
         knowing();
         stepping();
         chances();
@@ -1173,9 +1072,6 @@ public final class MoorGuidesPromises {
         images();
         counting();
         farArguments();
-        System.out.println(answers + " answers, " + wrong + " not as due");
-        if (wrong != 0) {
-            System.exit(1);
-        }
+        end();
     }
 }

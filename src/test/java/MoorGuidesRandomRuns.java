@@ -11,16 +11,13 @@ import java.util.TreeMap;
 import java.util.TreeSet;
 
 /** Random runs of calls beside a second program, written from the document in the most roundabout way. */
-public final class MoorGuidesRandomRuns {
+public final class MoorGuidesRandomRuns extends Dues {
     private static final Set<String> LANGUAGE = Set.of("part", "beside", "person", "knows", "cost", "from", "till",
         "forget", "party", "weather", "slide", "near", "seed", "law", "out", "pick", "or", "and", "not", "odds",
         "around", "times", "wanted", "night");
     private static final List<String> NAMES =
         List.of("odds", "around", "weather", "times", "wanted", "cost", "night");
     private static final BigInteger MOST = BigInteger.TEN.pow(12);
-
-    private static int wrong;
-    private static int answers;
 
     // ---- the text -------------------------------------------------------------------------------------------
 
@@ -913,16 +910,6 @@ public final class MoorGuidesRandomRuns {
 
     // ---- the calls ------------------------------------------------------------------------------------------
 
-    private static void due(String call, long got, long want) {
-        answers++;
-        if (got != want) {
-            wrong++;
-            if (wrong < 40) {
-                System.out.println(call + " answered " + got + ", due is " + want);
-            }
-        }
-    }
-
     private final Random random;
     private final MoorGuides x = new MoorGuides();
     private final Model m = new Model();
@@ -941,16 +928,8 @@ public final class MoorGuidesRandomRuns {
     private void tell(String text, int n) {
         story.setLength(Math.min(story.length(), 12));
         story.append('[').append(text).append("] ");
-        byte[] bytes = new byte[(text.length() + 19) / 20 * 20];
-        Arrays.fill(bytes, (byte) ' ');
-        for (int i = 0; i < text.length(); i++) {
-            bytes[i] = (byte) text.charAt(i);
-        }
-        for (int i = 0; i < bytes.length; i += 20) {
-            int[] five = new int[5];
-            for (int j = 0; j < 20; j++) {
-                five[j / 4] = five[j / 4] << 8 | bytes[i + j] & 255;
-            }
+        for (int i = 0; i < text.length(); i += 20) {
+            int[] five = fiveOf(text, i);
             due(story + "feed", x.feed(five[0], five[1], five[2], five[3], five[4]), m.feed(five));
         }
         due(story + "text " + n, x.text(n), m.text(n));
@@ -1329,12 +1308,9 @@ public final class MoorGuidesRandomRuns {
     public static void main(String[] args) {
         int runs = args.length > 0 ? Integer.parseInt(args[0]) : 3000;
         int first = args.length > 1 ? Integer.parseInt(args[1]) : 0;
-        for (int seed = first; seed < first + runs && wrong < 40; seed++) {
+        for (int seed = first; seed < first + runs && !isTooWrong(); seed++) {
             new MoorGuidesRandomRuns(seed).run();
         }
-        System.out.println(answers + " answers, " + wrong + " not as due");
-        if (wrong != 0) {
-            System.exit(1);
-        }
+        end();
     }
 }
