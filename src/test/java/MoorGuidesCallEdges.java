@@ -359,6 +359,99 @@ public final class MoorGuidesCallEdges extends Dues {
         due("b last night", x.knows(0, 1, 1), 1);
     }
 
+    /** A slide undone behind the image, another one in its place. */
+    private static void imageOfAnother() {
+        of("An IMAGE keeps which parts slid");
+        MoorGuides x = told("part a 100;part b 100;person x knows a knows b;");
+        x.slide(0);
+        x.keep();
+        x.undo();
+        x.slide(1);
+        due("b slid", x.look(0, 2), 1);
+        due("back", x.back(), 0);
+        due("a slid", x.look(0, 2), 2);
+        x.nights(2);
+        x.slide(0);
+        x.keep();
+        x.undo();
+        x.nights(1);
+        x.lose(0, 0);
+        x.nights(1);
+        x.slide(0);
+        due("back", x.back(), 2);
+        due("a on 1", x.knows(0, 0, 1), 0);
+        due("b on 2", x.knows(0, 1, 2), 1);
+        due("two slides", x.count(3), 2);
+    }
+
+    // ---- as much of all as may be ---------------------------------------------------------------------------
+
+    private static String fullHouse() {
+        StringBuilder s = new StringBuilder(longRow());
+        for (char who = 'p'; who <= 'u'; who++) {
+            s.append("person ").append(who).append(" knows a knows b;");
+        }
+        for (int i = 0; i < 8; i++) {
+            s.append("party a ").append((char) ('a' + i)).append(" 0 ").append(i + 1).append(';');
+        }
+        return s.append("slide h 1;slide h 2;slide h 3;slide h 4;law out 100;law pick odds;").toString();
+    }
+
+    private static void fullHouses() {
+        of("eight PARTS, six PEOPLE, eight PARTIES, twelve SLIDES");
+        MoorGuides x = told(fullHouse());
+        for (int i = 5; i <= 12; i++) {
+            due("slide", x.slide(7), i);
+        }
+        due("knows", x.look(5, 2), 3);
+        due("known by six", x.part(1, 3), 6);
+        due("wanted by all", x.part(0, 2), 8);
+        due("steps", x.steps(7, 0), 7);
+        due("hands", x.led(1, 0), 0);
+        due("can't be led", x.led(7, 0), -2);
+        due("share", x.share(0, -1), 3);
+        due("the second by", x.share(0, 1), 1);
+        due("worth", x.worth(5, 0), 0);
+        due("a stranger", x.stranger(255, 0), 33);
+        due("one who knows c and d", x.stranger(12, 0), 7);
+        due("fewest", x.fewest(255, 1), 252);
+        due("order", x.order(5, 255, 0), 1);
+        due("ordered", x.ordered(5, 255, 7), 7);
+        due("near", x.pick(0, 1), 2);
+        due("way", x.pick(1, 1), 2);
+        due("safe", x.pick(2, 0), 0);
+        due("told", x.pick(3, 1), 2);
+        due("round", x.round(7, 3), -2);
+        due("season", x.season(0, 1, 50, 1), 0);
+        due("led on the first night", x.season(0, 1, 50, 2), 2);
+        for (int who = 0; who < 6; who++) {
+            due("lost", x.lose(who, who + 2), true);
+        }
+        due("nights", x.nights(1), 1);
+        for (int who = 0; who < 6; who++) {
+            due("out", x.look(who, 3), 1);
+            due("knew the own part on night 0", x.knows(who, who + 2, 0), 1);
+            due("and does now, unless it slid", x.look(who, 2), who == 5 ? 3 : 3 | 1 << who + 2);
+        }
+        of("as little of it in the next TEXT");
+        due("a short one", tell(x, "part a 100;person p knows a;party a a 0 3;"), 3);
+        due("share", x.share(0, -1), 3);
+        due("worth", x.worth(0, 0), 3);
+        due("hands", x.led(0, 0), 0);
+        due("a stranger", x.stranger(1, 0), 0);
+        due("known by one", x.part(0, 3), 1);
+        due("wanted by one", x.part(0, 2), 1);
+        due("a full one again", tell(x, fullHouse()), 28);
+        due("another short one", tell(x, "part z 100;person z;party z z 0 3;"), 3);
+        due("no b", x.named(0, letters("b")), -1);
+        due("no q", x.named(1, letters("q")), -1);
+        due("share", x.share(0, -1), 0);
+        due("a stranger", x.stranger(1, 0), 3);
+        due("wanted by one", x.part(0, 2), 1);
+        due("known by nobody", x.part(0, 3), 0);
+        due("no slides", x.slide(0), 1);
+    }
+
     private static void counting() {
         of("32 count: 0 PARTS .. 9 near. NONE for another what");
         String most = parts(8) + "person p;person q;person r;person s;person t;person u;" + many("party a a 0 0;", 8)
@@ -393,6 +486,8 @@ public final class MoorGuidesCallEdges extends Dues {
         nightsBetween();
         images();
         imageOfSlides();
+        imageOfAnother();
+        fullHouses();
         counting();
         end();
     }

@@ -245,6 +245,11 @@ public final class MoorGuidesGuideEdges extends Dues {
         due("below 0", x.fewest(-1, 0), -1);
         due("what 2", x.fewest(2, 2), -1);
         due("what -1", x.fewest(2, -1), -1);
+        x = told(longRow() + "party a h 0 1;party b h 0 1;party h h 0 1;");
+        due("eight parts", x.fewest(1, 0), 8);
+        due("all bits", x.fewest(1, 1), 255);
+        due("seven parts", x.fewest(2, 0), 7);
+        due("the last bit", x.fewest(4, 1), 128);
         x = told("part a 1;" + many("party a a 0 1;", 8));
         due("all eight", x.fewest(255, 1), 1);
         due("a ninth", x.fewest(256, 1), -1);
@@ -304,11 +309,42 @@ public final class MoorGuidesGuideEdges extends Dues {
         orderIs(told(row + "person x forget 1;law out 50 + around * (night = 2) * 10;"), 7, "cab", 3, 20);
         orderIs(told(row + "person x forget 1;slide a 2;law out 50 + around * (night = 2) * 10;"), 7, "cba", 3, 20);
         orderIs(told(row + "person x forget 1;slide a 2;slide b 2;law out 50 + around * (night = 2) * 10;"), 7, "abc", 1, 8);
+        of("all PARTS around may be known");
+        StringBuilder star = new StringBuilder("part a 1;");
+        for (char c = 'b'; c <= 'h'; c++) {
+            star.append("part ").append(c).append(" 2 beside a;");
+        }
+        star.append("person x");
+        for (char c = 'b'; c <= 'h'; c++) {
+            star.append(" knows ").append(c);
+        }
+        star.append(";law out (odds = 1) * (around * 10 + 20) + (odds = 2) * (30 + around);");
+        orderIs(told(star.toString()), 3, "ab", 279, 1000);
+        orderIs(told(star.toString()), 1, "a", 9, 10);
+        orderIs(told(star.toString()), 2, "b", 3, 10);
         of("nobody else lost");
         x = told(pair + "person x;person y;near 8;law out odds + around * 30;");
         x.lose(1, 0);
         x.lose(0, 0);
         orderIs(x, 3, "ba", 21, 50);
+    }
+
+    /** As at the beginning, so many nights later: nights are told in the text so much later, too. */
+    private static void laterOrders(int now) {
+        of("ORDER from now on: NIGHT " + now);
+        String row = "part a 1;part b 1 beside a;part c 1;person x forget ";
+        String last = ";law out 50 + around * (night = " + (now + 2) + ") * 10;";
+        String slideA = ";slide a " + (now + 2);
+        String slideB = ";slide b " + (now + 2);
+        String[] told = {"2", "1", "1" + slideA, "1" + slideA + slideB, "9" + slideA, "9" + slideB,
+            "9;slide a " + (now + 1), "9;slide a " + now, "9;slide a " + (now + 3)};
+        String[] orders = {"acb", "cab", "cba", "abc", "bca", "acb", "bca", "acb", "acb"};
+        for (int i = 0; i < told.length; i++) {
+            MoorGuides x = told(row + told[i] + last);
+            goBy(x, now);
+            boolean likely = !orders[i].equals("abc");
+            orderIs(x, 7, orders[i], likely ? 3 : 1, likely ? 20 : 8);
+        }
     }
 
     private static void refusedOrders() {
@@ -358,7 +394,11 @@ public final class MoorGuidesGuideEdges extends Dues {
     /** The answer of one set, asked for again when something else has changed. */
     private static void ordersAgain() {
         of("ORDER as it is now");
-        MoorGuides x = told("part a 100;part b 10 beside a;person x;person y knows a;law out odds + around * 20 + times;");
+        MoorGuides x = told("part a 30;part b 70 beside a;person x;law out odds + around * 30;");
+        due("ordered asked first", x.ordered(0, 3, 1), 0);
+        due("of others then", x.ordered(0, 2, 0), 1);
+        due("and again", x.ordered(0, 3, 0), 1);
+        x = told("part a 100;part b 10 beside a;person x;person y knows a;law out odds + around * 20 + times;");
         due("x", x.order(0, 2, 0), 1);
         due("y", x.order(1, 2, 0), 3);
         due("x again", x.order(0, 2, 0), 1);
@@ -424,6 +464,9 @@ public final class MoorGuidesGuideEdges extends Dues {
         picked(row + "person x;law pick (odds - 30) / (odds - 20);", 3, 0, 0);
         picked(row + "person x;law pick (odds - 31) / (odds <> 20);", 3, 0, 3);
         picked(row + "person x;law pick 0 - 1 / (odds <> 20);", 3, 0, 1);
+        picked(row + "person x;law pick 1 / (odds <> 10);", 3, 0, 1);
+        picked(row + "person x;law pick 0 / (odds <> 10);", 3, 0, 0);
+        picked(row + "person x;law pick 0 / (odds <> 20);", 3, 0, 0);
         picked(row + "person x;law pick 0 - 9999 * 9999 * 9999 * 9999;", 3, 0, 0);
         picked(row + "person x;law pick (odds = 40) + (odds = 30) * 1000 * 1000 * 1000 * 1000;", 3, 0, 2);
         picked(row + "person x cost 1;person y cost 2;law pick cost - (odds = 10) * 5;", 3, 1, 1);
@@ -478,6 +521,16 @@ public final class MoorGuidesGuideEdges extends Dues {
         due("no more paid", x.season(0, 1, 50, 0), -12);
         x.nights(1);
         due("gone ahead of it aren't counted", x.count(7) * 10 + x.season(0, 1, 5, 1), 20);
+        of("a season goes by SLIDES and forgetting, too");
+        String market = "part a 100;part b 100;person x cost 0 knows b;party b b 0 1;party b b 1 2;party b b 2 4;party b b 3 8;";
+        due("known all along", told(market).season(0, 0, 4, 0), 15);
+        due("a slide, then lost in it the second night", told(market + "slide b 1;").season(0, 0, 4, 0), 13);
+        due("a slide of the other part", told(market + "slide a 1;").season(0, 0, 4, 0), 15);
+        x = told(market);
+        x.slide(1);
+        due("a slide by call", x.season(0, 0, 4, 0), 12);
+        x.undo();
+        due("undone", x.season(0, 0, 4, 0), 15);
         seasonsRefused();
     }
 
@@ -596,6 +649,17 @@ public final class MoorGuidesGuideEdges extends Dues {
             x.claim(0, i / 2, i % 2);
         }
         due("each second one", x.wrongly(), 0x555);
+        x = told(parts(1) + "person p;person q;person r;person s;person t;person u;");
+        for (int i = 0; i < 6; i++) {
+            x.claim(i, 0, 0);
+        }
+        due("all but the last one", x.wrongly(), 31);
+        x = told("part a 1;part b 1 beside a;person p;person q;person r;person s;person t;person u;near 1;");
+        for (int i = 0; i < 12; i++) {
+            x.claim(i / 2, 999, i % 2);
+        }
+        due("eleven of twelve", x.wrongly(), 2047);
+        due("each against eleven", x.against(11), 11);
         tell(x, parts(2) + "person p;");
         due("a text has none", x.wrongly(), 0);
         due("0 again", x.claim(0, 0, 1), 0);
@@ -610,6 +674,9 @@ public final class MoorGuidesGuideEdges extends Dues {
         worths();
         strangersAndFewest();
         orders();
+        laterOrders(0);
+        laterOrders(1);
+        laterOrders(500);
         refusedOrders();
         ordersAgain();
         picks();

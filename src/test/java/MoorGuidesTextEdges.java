@@ -1,3 +1,5 @@
+import java.util.List;
+
 /** The text and its faults, sentence by sentence of the Terms: just inside each boundary and just outside. */
 public final class MoorGuidesTextEdges extends Dues {
     private static final String[] LANGUAGE = {"part", "beside", "person", "knows", "cost", "from", "till", "forget", "party",
@@ -113,6 +115,25 @@ public final class MoorGuidesTextEdges extends Dues {
         faulty("part ` 1;", 1, 5);
         faulty("part { 1;", 1, 5);
         faulty("part a_b 1;", 1, 6);
+        of("each word of the language where it can't stand");
+        List<String> beginnings = List.of("part", "person", "party", "weather", "slide", "near", "seed", "law");
+        List<String> options = List.of("knows", "cost", "from", "till", "forget");
+        for (String word : LANGUAGE) {
+            if (!beginnings.contains(word)) {
+                faulty(word + " 1;", 1, 0);
+            }
+            if (!options.contains(word)) {
+                faulty("person x " + word + " 1;", 1, 9);
+            }
+            if (!word.equals("beside")) {
+                faulty("part a 1 " + word + " 1;", 1, 9);
+            }
+            if (!word.equals("out") && !word.equals("pick")) {
+                faulty("law " + word + " 1;", 1, 4);
+            }
+            faulty("near " + word + ";", 1, 5);
+            faulty("near 1 " + word + ";", 1, 7);
+        }
         of("N: digits");
         fine("near 0;", 1);
         fine("near 8;", 1);
@@ -439,6 +460,14 @@ public final class MoorGuidesTextEdges extends Dues {
         faulty("weather 1", 1, 9);
         faulty("law out 1 +", 1, 11);
         faulty("near 1" + many(" ", 894), 1, 900);
+        faulty("near 1" + many(" ", 893) + "1", 1, 899);
+        fine("near 1" + many(" ", 893) + ";", 1);
+        of("as many TOKENS as bytes");
+        for (String token : new String[] {";", "(", "a ", "1 ", "#", "<"}) {
+            faulty(many(token, 900 / token.length()), 1, 0);
+        }
+        faulty("law out 1" + many(")", 891), 1, 9);
+        faulty("near 1;" + many("+", 893), 1, 7);
     }
 
     /** Each of the last ones is the 65th knot, if its text begins with 64. */
@@ -548,6 +577,13 @@ public final class MoorGuidesTextEdges extends Dues {
             due("a fault with a bracket open", tell(x, RICH), -1);
             due("the stuff of it isn't told", tell(x, "law out ((((((((1))))))));law pick 1;near 1;seed 1;weather 1;"), 5);
             due("nor its knots", x.count(4), 2);
+            due("a fault with a sign behind", tell(x, "law out 1 or not 1 + 2 *"), -1);
+            due("a law", tell(x, "part a 1;person x;law out 5;law pick (7);"), 4);
+            due("is worked out without it", x.law(0, 0, 0), 5);
+            due("and so is the next one", x.law(1, 0, 0), 7);
+            due("a fault behind a sign in brackets", tell(x, "law pick (1 - ((2 *"), -1);
+            due("a law", tell(x, "part a 1;person x;law out 5 < 6;"), 3);
+            due("is worked out without it", x.law(0, 0, 0), 1);
         }
         tell(x, whole);
         tell(x, "part a 7;part c 7;person x;person y;");
