@@ -1746,9 +1746,12 @@ public final class MoorGuides {
         private final int[] knownAnyway = new int[MOST_PARTS];
         /** By part and the step on which it is learned: up to which step it is known. */
         private final int[][] until = new int[MOST_PARTS][MOST_PARTS];
-        private final int[] partMost = new int[MOST_PARTS];
-        /** What the steps from one on can bring at most. */
-        private final long[] stepsMost = new long[MOST_PARTS + 1];
+        /** By step: up to which one a part learned on it may be known. */
+        private final int[] latest = new int[MOST_PARTS];
+        /** The parts that are still known at the last step, whenever they are learned. */
+        private int lasting;
+        /** By the parts tried already: what the others can bring at most. */
+        private final long[] mostBehind = new long[1 << MOST_PARTS];
         private final int[] tried = new int[MOST_PARTS];
         private long bestProduct;
         final int[] best = new int[MOST_PARTS];
@@ -1769,12 +1772,14 @@ public final class MoorGuides {
             person = who;
             all = parts;
             length = Math.min(Integer.bitCount(parts), MOST_PARTS);
-            for (int part = 0; part < MOST_PARTS; part++) {
-                partMost[part] = 0;
-            }
-            stepsMost[length] = 1;
-            for (int step = length - 1; step >= 0; step--) {
+            lasting = parts;
+            for (int step = 0; step < length; step++) {
                 prepare(step);
+            }
+            for (int used = mostBehind.length - 1; used >= 0; used--) {
+                if ((used & ~all) == 0) {
+                    mostBehind[used] = mostFrom(used);
+                }
             }
             bestProduct = -1;
             goOn(0, 0, 1);
@@ -1782,26 +1787,64 @@ public final class MoorGuides {
 
         private void prepare(int step) {
             int night = stand.night + step;
-            int stepMost = 0;
             knownAnyway[step] = stand.knownBits(person, night);
+            latest[step] = 0;
             for (int part = 0; part < stand.moor.parts; part++) {
                 if ((all >> part & 1) != 0) {
                     until[part][step] = stand.knownUntil(person, part, night) - stand.night;
-                    int most = fillChances(step, part);
-                    partMost[part] = Math.max(partMost[part], most);
-                    stepMost = Math.max(stepMost, most);
+                    latest[step] = Math.max(latest[step], until[part][step]);
+                    if (until[part][step] < length - 1) {
+                        lasting &= ~(1 << part);
+                    }
+                    fillChances(step, part);
                 }
             }
-            stepsMost[step] = stepsMost[step + 1] * stepMost;
         }
 
-        private int fillChances(int step, int part) {
-            int most = 0;
+        private void fillChances(int step, int part) {
             int mostAround = Math.min(Integer.bitCount(stand.moor.beside[part]), MOST_PARTS);
             for (int around = 0; around <= mostAround; around++) {
-                int chance = stand.chanceOn(person, part, stand.night + step, around, stand.times[person] + step);
-                chances[slot(step, part, around)] = chance;
-                most = Math.max(most, chance);
+                chances[slot(step, part, around)] =
+                    stand.chanceOn(person, part, stand.night + step, around, stand.times[person] + step);
+            }
+        }
+
+        /** When the parts already used were learned is open here, and so is whether each is known still. */
+        private long mostFrom(int used) {
+            int step = Integer.bitCount(used);
+            if (step >= length) {
+                return 1;
+            }
+            int anyway = knownAnyway[step] & ~used;
+            int fresh = freshAt(step);
+            long most = 0;
+            for (int part = 0; part < stand.moor.parts; part++) {
+                if ((all & ~used & 1 << part) != 0) {
+                    int beside = stand.moor.beside[part];
+                    int least = Integer.bitCount(beside & (anyway | lasting & used));
+                    int greatest = Math.min(Integer.bitCount(beside & anyway) + fresh,
+                        Integer.bitCount(beside & (anyway | used)));
+                    most = Math.max(most, chanceAtMost(step, part, least, greatest) * mostBehind[used | 1 << part]);
+                }
+            }
+            return most;
+        }
+
+        /** Of the parts learned on the way: how many may be known still. */
+        private int freshAt(int step) {
+            int fresh = 0;
+            for (int i = 0; i < step; i++) {
+                if (latest[i] >= step) {
+                    fresh++;
+                }
+            }
+            return fresh;
+        }
+
+        private long chanceAtMost(int step, int part, int leastAround, int mostAround) {
+            int most = 0;
+            for (int around = leastAround; around <= mostAround; around++) {
+                most = Math.max(most, chances[slot(step, part, around)]);
             }
             return most;
         }
@@ -1823,7 +1866,7 @@ public final class MoorGuides {
                     int around = Integer.bitCount(stand.moor.beside[part] & known);
                     long next = product * chances[slot(step, part, around)];
                     int nextUsed = used | 1 << part;
-                    if (next * mostBehind(step + 1, nextUsed) > bestProduct) {
+                    if (next * mostBehind[nextUsed] > bestProduct) {
                         tried[step] = part;
                         goOn(step + 1, nextUsed, next);
                     }
@@ -1839,16 +1882,6 @@ public final class MoorGuides {
                 }
             }
             return known;
-        }
-
-        private long mostBehind(int step, int used) {
-            long most = 1;
-            for (int part = 0; part < stand.moor.parts; part++) {
-                if ((all & ~used & 1 << part) != 0) {
-                    most *= partMost[part];
-                }
-            }
-            return Math.min(most, stepsMost[step]);
         }
 
         long above() {

@@ -135,6 +135,16 @@ abstract class Dues {
         }
     }
 
+    /** ORDER of person 0: its parts as letters, and the product as it stands above and below. */
+    static void orderIs(MoorGuides x, int parts, String order, long above, long below) {
+        due("above of " + parts, x.order(0, parts, 0), above);
+        due("below of " + parts, x.order(0, parts, 1), below);
+        for (int k = 0; k < order.length(); k++) {
+            due("part " + k + " of " + parts, x.ordered(0, parts, k), order.charAt(k) - 'a');
+        }
+        due("no so many of " + parts, x.ordered(0, parts, order.length()), -2);
+    }
+
     /** The last number's follower, as the document tells it. */
     static long after(long last) {
         return last * 1103515245L + 12345L & 0x7fffffffL;

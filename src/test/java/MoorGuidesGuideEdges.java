@@ -257,15 +257,6 @@ public final class MoorGuidesGuideEdges extends Dues {
 
     // ---- orders ---------------------------------------------------------------------------------------------
 
-    private static void orderIs(MoorGuides x, int parts, String order, long above, long below) {
-        due("above of " + parts, x.order(0, parts, 0), above);
-        due("below of " + parts, x.order(0, parts, 1), below);
-        for (int k = 0; k < order.length(); k++) {
-            due("part " + k + " of " + parts, x.ordered(0, parts, k), order.charAt(k) - 'a');
-        }
-        due("no so many of " + parts, x.ordered(0, parts, order.length()), -2);
-    }
-
     private static void orders() {
         of("ORDER: the product of CHANCES by 100 each, in least terms");
         String pair = "part a 30;part b 70 beside a;";

@@ -680,15 +680,6 @@ public final class MoorGuidesPromises extends Dues {
         due("no such what", x.fewest(1, -1), -1);
     }
 
-    private static void orderIs(MoorGuides x, int parts, String order, long above, long below) {
-        due("above of " + parts, x.order(0, parts, 0), above);
-        due("below of " + parts, x.order(0, parts, 1), below);
-        for (int k = 0; k < order.length(); k++) {
-            due("part " + k + " of " + parts, x.ordered(0, parts, k), order.charAt(k) - 'a');
-        }
-        due("no so many of " + parts, x.ordered(0, parts, order.length()), -2);
-    }
-
     private static void ordering() {
         of("21 order, 22 ordered");
         String row = "part a 10;part b 20 beside a;part c 30 beside b;part d 50 beside c;";
